@@ -1408,7 +1408,8 @@ public final class QuarterBoards {
 
         private void countWay() {
             ways++;
-            if (ways == 1) {
+            // looking for SETS must leave the FILLING that is remembered
+            if (ways == 1 && !onlyFirst) {
                 System.arraycopy(tried, 0, firstWay, 0, MOST_BOARDS);
             }
         }

@@ -104,6 +104,12 @@ public final class FillTest {
         x.needed(1);
         x.cut(0, 1);
         T.due("sets() and cut() leave it", x.filled(0, 2), 2);
+        QuarterBoards y = Harness.house("board a=half 0 0 0;outline c=half 3 4 0;outline d=half 1 1 3;");
+        y.fill(0, 1);
+        T.due("another outline's SETS", y.sets(1), 1);
+        T.due("sets() leaves g", y.filled(0, 0), 0);
+        T.due("sets() leaves a", y.filled(0, 1), 3);
+        T.due("sets() leaves b", y.filled(0, 2), 4);
         x.fill(0, 0);
         T.due("a NONE forgets", x.filled(0, 2), -100);
         x.fill(0, 1);
