@@ -1288,6 +1288,8 @@ public final class QuarterBoards {
     private static final class Filler {
         private static final int MOST_STEPS = 60000;
         private static final int NOT_LOOKED = -3;
+        private static final int ALL_SETS = 1 << MOST_BOARDS;
+        private static final int SET_ROWS = ALL_SETS >> 5;
 
         int countedSteps = 0;
         private Form[] boards = null;
@@ -1300,7 +1302,8 @@ public final class QuarterBoards {
         private final int[] firstWay = new int[MOST_BOARDS];
         private int rememberedSet = 0;
         private final int[] setCounts = new int[MOST_OUTLINES];
-        private final int[][] fillingSets = new int[MOST_OUTLINES][(1 << MOST_BOARDS) - 1];
+        // one bit for each SET: a list of all of them would be thirty times as long
+        private final int[][] fillingSets = new int[MOST_OUTLINES][SET_ROWS];
 
         void forget() {
             rememberedSet = 0;
@@ -1341,30 +1344,44 @@ public final class QuarterBoards {
 
         private int lookForSets(int[] found, Form outline, Form[] ofHouse, int boardCount) {
             int many = 0;
-            for (int set = 1; set < 1 << boardCount; set++) {
+            for (int row = 0; row < found.length; row++) {
+                found[row] = 0;
+            }
+            for (int set = 1; set < 1 << boardCount && set >> 5 < found.length; set++) {
                 look(outline, ofHouse, set, true);
                 if (full) {
                     return NOT_SO;
                 }
-                if (ways > 0 && many < found.length) {
-                    found[many] = set;
+                if (ways > 0) {
+                    found[set >> 5] |= 1 << (set & 31);
                     many++;
                 }
             }
             return many;
         }
 
+        private boolean doesFill(int k, int set) {
+            return k >= 0 && k < MOST_OUTLINES && set >= 0 && set < ALL_SETS
+                && (fillingSets[k][set >> 5] >>> (set & 31) & 1) != 0;
+        }
+
         int setAt(int k, int i) {
-            if (k < 0 || k >= MOST_OUTLINES || i < 0 || i >= setCounts[k]) {
-                return NONE;
+            int seen = 0;
+            for (int set = 1; set < ALL_SETS; set++) {
+                if (doesFill(k, set)) {
+                    if (seen == i) {
+                        return set;
+                    }
+                    seen++;
+                }
             }
-            return fillingSets[k][i];
+            return NONE;
         }
 
         int inAllSets(int k) {
-            int all = (1 << MOST_BOARDS) - 1;
-            for (int i = 0; i < setCounts[k]; i++) {
-                all &= fillingSets[k][i];
+            int all = ALL_SETS - 1;
+            for (int set = 1; set < ALL_SETS; set++) {
+                all &= doesFill(k, set) ? set : all;
             }
             return all;
         }
@@ -1418,22 +1435,26 @@ public final class QuarterBoards {
             Form form = boards[board];
             for (int g = 0; g < ALL_IMAGES && !isOver(); g++) {
                 int start = form.lowest[g];
-                // a SHIFT leaves d as it is, and an IMAGE's least QUARTER lies in row 0
+                // a SHIFT leaves d as it is, so another d never comes on that QUARTER
+                if (form.leastSame[g] != g || (start & 3) != (quarter & 3)) {
+                    continue;
+                }
+                // an IMAGE's least QUARTER lies in the GRID's first row
                 int a = (quarter >> 2 & 7) - (start >> 2 & 7);
                 int b = quarter >> 5;
-                if (form.leastSame[g] == g && (start & 3) == (quarter & 3)
-                    && form.staysOn(g, a, b)) {
-                    if (stepsDone == MOST_STEPS) {
-                        full = true;
-                        return;
-                    }
-                    stepsDone++;
-                    if (fits(form.turned[g], form.height[g], a, b)) {
-                        tried[board] = layCode(g, a, b);
-                        change(form.turned[g], form.height[g], a, b);
-                        search(depth + 1, unused & ~(1 << board));
-                        change(form.turned[g], form.height[g], a, b);
-                    }
+                if (!form.staysOn(g, a, b)) {
+                    continue;
+                }
+                if (stepsDone == MOST_STEPS) {
+                    full = true;
+                    return;
+                }
+                stepsDone++;
+                if (fits(form.turned[g], form.height[g], a, b)) {
+                    tried[board] = layCode(g, a, b);
+                    change(form.turned[g], form.height[g], a, b);
+                    search(depth + 1, unused & ~(1 << board));
+                    change(form.turned[g], form.height[g], a, b);
                 }
             }
         }
@@ -1522,21 +1543,32 @@ public final class QuarterBoards {
         private boolean cuts(Shape image, int a, int b, Measure measure) {
             firstPart.becomeShifted(image, a, b);
             firstPart.keepCommon(whole);
-            if (!measure.isOnePiece(firstPart)) {
+            if (firstPart.isNothing()) {
                 return false;
             }
             secondPart.copy(whole);
             secondPart.takeAway(firstPart);
-            if (!measure.isOnePiece(secondPart)) {
-                return false;
-            }
             // shifted back, so that what is beyond the GRID is still there
             common.becomeShifted(firstPart, -a, -b);
             leftOver.copy(image);
             leftOver.takeAway(common);
+            // the cheapest question comes first: most SHIFTS end here
+            if (!haveLikeSides() || !measure.isOnePiece(firstPart)
+                || !measure.isOnePiece(secondPart)) {
+                return false;
+            }
             leftOver.moveToBase();
             leftForm.tell(secondPart);
             return leftForm.imageThatIs(leftOver) >= 0;
+        }
+
+        private boolean haveLikeSides() {
+            int width = secondPart.right() - secondPart.left();
+            int height = secondPart.bottom() - secondPart.top();
+            int otherWidth = leftOver.right() - leftOver.left();
+            int otherHeight = leftOver.bottom() - leftOver.top();
+            return width == otherWidth && height == otherHeight
+                || width == otherHeight && height == otherWidth;
         }
 
         private int remember(int parts, int g, int a, int b) {

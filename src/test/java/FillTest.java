@@ -169,6 +169,24 @@ public final class FillTest {
         T.due("sets(2)", x.sets(2), 28);
         T.due("set(2, 27)", x.set(2, 27), 252);
         fullWithoutFilling();
+        atTheLimit();
+    }
+
+    private static void atTheLimit() {
+        QuarterBoards x = Harness.house("board ba=quarter 0 0 1;board bb=half 0 0 0+quarter 1 0 3;"
+            + "board bc=cell 0 0-quarter 0 0 0;board bd=cell 0 0+half 1 0 2;board be=cell 0 0+half 1 0 2;"
+            + "board bf=cell 0 0-quarter 0 0 2;board bg=quarter 0 0 0+quarter 0 0 2;"
+            + "board bh=half 0 0 0+quarter 1 0 3;outline o=box 2 2 2 3+cell 2 5-quarter 2 5 1;");
+        T.due("just 60000 STEPS", x.fill(0, 255), 928);
+        T.due("steps", x.steps(), 60000);
+        T.due("the first one is remembered", x.filled(7, 0) >= 0, true);
+        QuarterBoards y = Harness.house("board ba=half 0 0 0;board bb=quarter 0 0 0;"
+            + "board bc=half 0 0 0+quarter 1 0 3;board bd=box 0 0 2 1;board be=cell 0 0;board bf=half 0 0 0;"
+            + "board bg=half 0 0 0;board bh=quarter 0 0 1;outline o=box 1 1 2 2+box 1 3 2 1-quarter 2 3 1;");
+        T.due("one STEP more", y.fill(0, 255), -2);
+        T.due("steps", y.steps(), 60000);
+        T.due("nothing is remembered", y.filled(7, 0), -100);
+        T.due("its first FILLING is soon found", y.sets(0) > 0, true);
     }
 
     private static void fullWithoutFilling() {
