@@ -8,6 +8,7 @@ public final class CutTest {
         squareToTriangle();
         noCut();
         beyondTheGrid();
+        farthestShifts();
         onePieceEach();
         memory();
         T.finish();
@@ -77,6 +78,18 @@ public final class CutTest {
         QuarterBoards z = Harness.house("outline a=box 2 2 2 4;outline b=box 0 5 8 1;");
         // IMAGE 0 lies across: each cut leaves more than one PIECE or the wrong one, so it is turned
         cut(z, 2, 1, 0, -4);
+    }
+
+    private static void farthestShifts() {
+        // a QUARTER at one end of a and at the other end of b; what is left is turned, so it can't be the first PART
+        String left = "(cell 0 3+half 1 3 3+quarter 0 4 0)";
+        int[][] want = {{7, 0}, {0, 7}, {-7, 0}, {0, -7}};
+        String words = "";
+        for (int[] ab : want) {
+            cut(Harness.house("outline a=" + words + "(quarter 7 0 1+" + left + ");outline b=" + words
+                + "(quarter 0 0 1+shift 6 3 base turn " + left + ");"), 2, 0, ab[0], ab[1]);
+            words = words + "turn ";
+        }
     }
 
     private static void onePieceEach() {
