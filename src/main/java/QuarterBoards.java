@@ -29,10 +29,10 @@ public final class QuarterBoards {
     private final Tokens tokens = new Tokens();
     private final Syntax syntax = new Syntax();
     private final Meaning meaning = new Meaning();
-    private final Builder builder = new Builder();
+    private final Builder builder = new Builder(tokens);
 
     private final Measure measure = new Measure();
-    private final Filler filler = new Filler();
+    private final Filler filler = new Filler(boards);
     private final Cutter cutter = new Cutter();
     private final Table table = new Table();
     private final Book book = new Book();
@@ -75,7 +75,7 @@ public final class QuarterBoards {
             meaning.check(tokens);
         }
         if (tokens.fault == 0) {
-            builder.build(tokens);
+            builder.build();
         }
         faultPlace = tokens.faultPlace;
         if (tokens.fault == 0) {
@@ -161,7 +161,7 @@ public final class QuarterBoards {
         if (form == null || !isSet(set)) {
             return NONE;
         }
-        return filler.countAll(form, boards, set);
+        return filler.countAll(form, set);
     }
 
     public int filled(int board, int what) {
@@ -174,7 +174,7 @@ public final class QuarterBoards {
 
     public int sets(int outline) {
         Form form = formOf(true, outline);
-        return form == null ? NONE : filler.countSets(outline, form, boards, boardCount);
+        return form == null ? NONE : filler.countSets(outline, form, boardCount);
     }
 
     public int set(int outline, int i) {
@@ -182,7 +182,7 @@ public final class QuarterBoards {
         if (form == null || i < 0) {
             return NONE;
         }
-        int many = filler.countSets(outline, form, boards, boardCount);
+        int many = filler.countSets(outline, form, boardCount);
         if (many < 0) {
             return NOT_SO;
         }
@@ -194,7 +194,7 @@ public final class QuarterBoards {
         if (form == null) {
             return NONE;
         }
-        int many = filler.countSets(outline, form, boards, boardCount);
+        int many = filler.countSets(outline, form, boardCount);
         if (many < 0) {
             return NOT_SO;
         }
@@ -1115,10 +1115,11 @@ public final class QuarterBoards {
         private final Shape spare = new Shape();
         private final int[] words = new int[Tokens.MOST];
         private int wordsOpen = 0;
-        private Tokens tokens = null;
+        private final Tokens tokens;
         private int at = 0;
 
-        Builder() {
+        Builder(Tokens text) {
+            tokens = text;
             for (int i = 0; i < MOST_TOLD; i++) {
                 made[i] = new Shape();
             }
@@ -1128,21 +1129,20 @@ public final class QuarterBoards {
             }
         }
 
-        void build(Tokens text) {
-            tokens = text;
+        void build() {
             at = 0;
             many = 0;
             wordsOpen = 0;
-            for (int i = 0; i < MOST_TOLD && at < text.many; i++) {
+            for (int i = 0; i < MOST_TOLD && at < tokens.many; i++) {
                 int nameAt = at + 1;
-                asOutline[i] = text.kindAt(at) == Tokens.OUTLINE;
-                names[i] = text.valueAt(nameAt);
+                asOutline[i] = tokens.kindAt(at) == Tokens.OUTLINE;
+                names[i] = tokens.valueAt(nameAt);
                 at += 3;
                 sumUp(0);
-                if (text.fault == 0 && sums[0].isNothing()) {
-                    text.blame(Tokens.EMPTY, nameAt);
+                if (tokens.fault == 0 && sums[0].isNothing()) {
+                    tokens.blame(Tokens.EMPTY, nameAt);
                 }
-                if (text.fault != 0) {
+                if (tokens.fault != 0) {
                     return;
                 }
                 made[i].copy(sums[0]);
@@ -1292,7 +1292,7 @@ public final class QuarterBoards {
         private static final int SET_ROWS = ALL_SETS >> 5;
 
         int countedSteps = 0;
-        private Form[] boards = null;
+        private final Form[] boards;
         private final Shape left = new Shape();
         private boolean onlyFirst = false;
         private boolean full = false;
@@ -1305,6 +1305,10 @@ public final class QuarterBoards {
         // one bit for each SET: a list of all of them would be thirty times as long
         private final int[][] fillingSets = new int[MOST_OUTLINES][SET_ROWS];
 
+        Filler(Form[] ofHouse) {
+            boards = ofHouse;
+        }
+
         void forget() {
             rememberedSet = 0;
         }
@@ -1315,8 +1319,8 @@ public final class QuarterBoards {
             }
         }
 
-        int countAll(Form outline, Form[] ofHouse, int set) {
-            look(outline, ofHouse, set, false);
+        int countAll(Form outline, int set) {
+            look(outline, set, false);
             countedSteps = stepsDone;
             if (full) {
                 return NOT_SO;
@@ -1332,23 +1336,23 @@ public final class QuarterBoards {
             return tellOf(firstWay[board], what);
         }
 
-        int countSets(int k, Form outline, Form[] ofHouse, int boardCount) {
+        int countSets(int k, Form outline, int boardCount) {
             if (k < 0 || k >= MOST_OUTLINES) {
                 return NONE;
             }
             if (setCounts[k] == NOT_LOOKED) {
-                setCounts[k] = lookForSets(fillingSets[k], outline, ofHouse, boardCount);
+                setCounts[k] = lookForSets(fillingSets[k], outline, boardCount);
             }
             return setCounts[k];
         }
 
-        private int lookForSets(int[] found, Form outline, Form[] ofHouse, int boardCount) {
+        private int lookForSets(int[] found, Form outline, int boardCount) {
             int many = 0;
             for (int row = 0; row < found.length; row++) {
                 found[row] = 0;
             }
             for (int set = 1; set < 1 << boardCount && set >> 5 < found.length; set++) {
-                look(outline, ofHouse, set, true);
+                look(outline, set, true);
                 if (full) {
                     return NOT_SO;
                 }
@@ -1386,8 +1390,7 @@ public final class QuarterBoards {
             return all;
         }
 
-        private void look(Form outline, Form[] ofHouse, int set, boolean stopAtFirst) {
-            boards = ofHouse;
+        private void look(Form outline, int set, boolean stopAtFirst) {
             onlyFirst = stopAtFirst;
             full = false;
             stepsDone = 0;
