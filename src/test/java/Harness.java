@@ -22,6 +22,20 @@ final class Harness {
         due(call, got ? 1 : 0, want ? 1 : 0);
     }
 
+    void due(String call, String got, String want) {
+        due(call + (got.equals(want) ? "" : ": " + got + ", due is " + want), got.equals(want), true);
+    }
+
+    /** A text read by a new object: a FAULT's number and place; number 0 is none. */
+    void fault(String text, int number, int place) {
+        due("read of " + text, faultOf(new QuarterBoards(), text), number == 0 ? 0 : 10000 * number + place);
+    }
+
+    /** All calls that name a wrong one must leave the house as it was; see state(). */
+    void unchanged(String call, QuarterBoards x, String before) {
+        due("what is seen behind " + call, state(x), before);
+    }
+
     boolean hasWrong() {
         return wrong > 0;
     }
@@ -67,9 +81,46 @@ final class Harness {
         return x;
     }
 
+    /** As many boards and outlines as there may be, each one CELL. */
+    static String eightAndSix() {
+        StringBuilder text = new StringBuilder("board ba=cell 0 0;");
+        for (int i = 1; i < 8; i++) {
+            text.append("board b").append((char) ('a' + i)).append("=ba;");
+        }
+        for (int i = 0; i < 6; i++) {
+            text.append("outline o").append((char) ('a' + i)).append("=ba;");
+        }
+        return text.toString();
+    }
+
     /** A fault's number and its place in one number, so that a test asks both at once. */
     static int faultOf(QuarterBoards x, String text) {
         int fault = read(x, text);
         return fault == 0 ? (x.place() == -1 ? 0 : -7) : 10000 * fault + x.place();
+    }
+
+    /** What some ninety calls tell of a house, so that a test sees whether a refused call changed it. */
+    static String state(QuarterBoards x) {
+        StringBuilder seen = new StringBuilder();
+        for (int what = 0; what <= 4; what++) {
+            seen.append(x.count(what)).append(' ');
+        }
+        seen.append(x.steps()).append(' ').append(x.shows()).append(' ').append(x.clashes()).append(" | ");
+        for (int k = 0; k < 8; k++) {
+            seen.append(x.area(false, k)).append(' ').append(k < 6 ? x.area(true, k) : -1).append(' ');
+            seen.append(x.filled(k, 0)).append(' ').append(x.filled(k, 1)).append(' ').append(x.filled(k, 2)).append(", ");
+        }
+        seen.append("| ").append(x.laid(0)).append(' ').append(x.laid(1)).append(' ').append(x.laid(2)).append(" | ");
+        for (int quarter = 0; quarter < 4; quarter++) {
+            seen.append(x.part(quarter)).append(' ').append(x.covers(36 + quarter)).append(", ");
+        }
+        int entries = x.count(3);
+        for (int i = Math.max(0, entries - 6); i < entries; i++) {
+            seen.append(x.verdict(i)).append(' ').append(x.first(i, entries)).append(", ");
+        }
+        for (int player = 0; player < 6; player++) {
+            seen.append(x.points(player, entries)).append(' ');
+        }
+        return seen.toString();
     }
 }
