@@ -17,6 +17,7 @@ public final class BookEdgeTest {
         voidsNumbered();
         known();
         voidsAmongThem();
+        voidDirectlyBehind();
         points();
         samePoints();
         claim();
@@ -225,6 +226,24 @@ public final class BookEdgeTest {
                 T.due("points(" + player + ", " + n + ")", x.points(player, n), want[n][player]);
             }
         }
+    }
+
+    // Terms IV: "without CLAIMS that a VOID among them names."
+    private static void voidDirectlyBehind() {
+        QuarterBoards x = oneCell();
+        x.claim(3, 0, 1);
+        x.annul(0);
+        T.due("by 1", x.points(3, 1), 1);
+        T.due("by 2", x.points(3, 2), 0);
+        T.due("first by 1", x.first(0, 1), 0);
+        T.due("first by 2", x.first(0, 2), -1);
+        // the last of sixty is a VOID
+        for (int i = 2; i < 59; i++) {
+            x.claim(4, 0, 1);
+        }
+        T.due("the last VOID", x.annul(2), 59);
+        T.due("ahead of it", x.first(58, 59), 2);
+        T.due("behind it", x.first(58, 60), 3);
     }
 
     // Terms IV: "POINTS of a PLAYER: of its RIGHT CLAIMS those than which no RIGHT CLAIM ahead, of whomever, KNOWN

@@ -429,6 +429,8 @@ public final class FillEdgeTest {
         T.due("set(0, 1)", x.set(0, 1), -2);
         T.due("set(0, 300)", x.set(0, 300), -2);
         T.due("no such outline", x.set(2, 0), -1);
+        // no such one, which is seen ahead of any looking
+        T.due("set(0, -1)", x.set(0, -1), -1);
         T.due("another outline", x.set(1, 5), 64);
         QuarterBoards y = Harness.house(justFullWithout());
         T.due("just not FULL", y.set(0, 0), -1);

@@ -6,6 +6,7 @@ import java.lang.reflect.Modifier;
 import java.nio.charset.StandardCharsets;
 import java.nio.file.Files;
 import java.nio.file.Path;
+import java.util.ArrayList;
 import java.util.Arrays;
 import java.util.HashSet;
 import java.util.List;
@@ -21,13 +22,42 @@ public final class LanguageTest {
         "cut", "part", "laid", "lay", "lift", "covers", "clashes", "claim", "annul", "verdict", "first", "points",
         "count");
 
+    private static final List<Class<?>> NUMBERS = List.of(int.class, long.class, short.class, byte.class, char.class,
+        boolean.class);
+
     public static void main(String[] args) throws IOException {
+        String source = Files.readString(Path.of("src/main/java/QuarterBoards.java"), StandardCharsets.ISO_8859_1);
         face();
+        faceOfTheDocument(Files.readString(Path.of("../shared/DOC.md"), StandardCharsets.ISO_8859_1));
         classesInside();
-        words(Files.readString(Path.of("src/main/java/QuarterBoards.java"), StandardCharsets.ISO_8859_1));
+        fields();
+        words(source);
+        lengths(source);
         T.finish();
     }
 
+    // Rule 1: the document's constructor, methods and constants, each with its own types.
+    private static void faceOfTheDocument(String document) {
+        Matcher line = Pattern.compile("    public (int|boolean) (\\w+)\\(([^)]*)\\);").matcher(document);
+        int many = 0;
+        while (line.find()) {
+            many++;
+            List<Class<?>> types = new ArrayList<>();
+            for (String parameter : line.group(3).isEmpty() ? new String[0] : line.group(3).split(", ")) {
+                types.add(parameter.startsWith("boolean ") ? boolean.class : int.class);
+            }
+            for (Method method : QuarterBoards.class.getDeclaredMethods()) {
+                if (method.getName().equals(line.group(2))) {
+                    T.due("parameters of " + line.group(2), Arrays.asList(method.getParameterTypes()).equals(types), true);
+                    T.due("answer of " + line.group(2), method.getReturnType().toString(), line.group(1));
+                    T.due(line.group(2) + " is of an object", Modifier.isStatic(method.getModifiers()), false);
+                }
+            }
+        }
+        T.due("methods of the document", many, FACE.size());
+    }
+
+    // Rule 1: no other member can be seen from outside.
     private static void face() {
         T.due("public and final", Modifier.isPublic(QuarterBoards.class.getModifiers())
             && Modifier.isFinal(QuarterBoards.class.getModifiers()), true);
@@ -48,9 +78,47 @@ public final class LanguageTest {
         }
     }
 
+    // Rules 3 and 5: of which types fields are, and static ones are constants.
+    private static void fields() {
+        List<Class<?>> own = new ArrayList<>(List.of(QuarterBoards.class.getDeclaredClasses()));
+        own.add(QuarterBoards.class);
+        for (Class<?> one : own) {
+            for (Field field : one.getDeclaredFields()) {
+                Class<?> type = field.getType();
+                Class<?> element = type.isArray() ? type.getComponentType() : type;
+                boolean isTable = element.isArray() && NUMBERS.contains(element.getComponentType());
+                boolean isConstant = NUMBERS.contains(type) || type == String.class;
+                T.due(one + "." + field.getName() + " is of a type that is left",
+                    NUMBERS.contains(element) || own.contains(element) || isTable || type == String.class, true);
+                T.due(one + "." + field.getName() + " is a constant or of an object", isConstant
+                    && Modifier.isFinal(field.getModifiers()) || !Modifier.isStatic(field.getModifiers()), true);
+            }
+            long ofObject = Arrays.stream(one.getDeclaredFields()).filter(f -> !Modifier.isStatic(f.getModifiers())).count();
+            T.due(one + " has some twenty fields at most", ofObject <= 20, true);
+        }
+    }
+
+    // Rule 11: methods stay short.
+    private static void lengths(String source) {
+        int start = -1;
+        String[] lines = source.split("\n");
+        for (int i = 0; i < lines.length; i++) {
+            if (lines[i].matches("( {4}| {8})[a-zA-Z].*\\) \\{")) {
+                start = i;
+            } else if (lines[i].matches("( {4}| {8})\\}") && start >= 0) {
+                T.due("a method of at most sixty lines:" + lines[start], i - start < 60, true);
+                start = -1;
+            }
+        }
+    }
+
+    // Rules 2 and 11: classes inside.
     private static void classesInside() {
         Class<?>[] inside = QuarterBoards.class.getDeclaredClasses();
         T.due("some twelve classes", inside.length <= 11, true);
+        for (int i = 1; i <= 3; i++) {
+            T.due("a class without a name", QuarterBoards.class.getResource("QuarterBoards$" + i + ".class") == null, true);
+        }
         for (Class<?> one : inside) {
             T.due(one + " is static", Modifier.isStatic(one.getModifiers()), true);
             T.due(one + " is private", Modifier.isPrivate(one.getModifiers()), true);
@@ -63,11 +131,10 @@ public final class LanguageTest {
                 T.due(one + "." + field.getName() + " is not static or is final",
                     !Modifier.isStatic(field.getModifiers()) || Modifier.isFinal(field.getModifiers()), true);
             }
-            long own = Arrays.stream(one.getDeclaredFields()).filter(f -> !Modifier.isStatic(f.getModifiers())).count();
-            T.due(one + " has some twenty fields at most", own <= 20, true);
         }
     }
 
+    // Rules 2, 4, 6, 7 and 9: words and calls that are not left.
     private static void words(String source) {
         String code = source.replaceAll("(?s)/\\*.*?\\*/", " ").replaceAll("//[^\n]*", " ")
             .replaceAll("\"[^\"\n]*\"", "\"\"");

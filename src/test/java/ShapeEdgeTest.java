@@ -98,6 +98,11 @@ public final class ShapeEdgeTest {
                     outline("quarter 3 3 " + d + "+quarter 3 4 " + e).pieces(true, 0), d == 2 && e == 0 ? 1 : 2);
             }
         }
+        // seen from a lower CELL, and from one to the right, where the way leads round from an earlier QUARTER
+        for (int d = 0; d < 4; d++) {
+            T.due("above it " + d, outline("box 2 2 1 4+box 2 5 3 1+quarter 4 4 " + d).pieces(true, 0), d == 2 ? 1 : 2);
+            T.due("left of it " + d, outline("box 2 2 3 1+box 4 2 1 3+quarter 3 4 " + d).pieces(true, 0), d == 1 ? 1 : 2);
+        }
         // the GRID does not go on at its other rim, nor a row in the next one
         T.due("at the right rim", outline("quarter 7 3 1+quarter 0 3 3").pieces(true, 0), 2);
         T.due("at a row's end", outline("quarter 7 3 1+quarter 0 4 3").pieces(true, 0), 2);
@@ -114,6 +119,11 @@ public final class ShapeEdgeTest {
         T.due("the whole GRID", outline("box 0 0 8 8").pieces(true, 0), 1);
         T.due("the longest way", outline("box 0 0 8 1+cell 7 1+box 0 2 8 1+cell 0 3+box 0 4 8 1+cell 7 5+box 0 6 8 1"
             + "+cell 0 7").pieces(true, 0), 1);
+        // round three sides of a gap, whichever way it is open: the way goes up and back to the left, too
+        for (String words : new String[] {"", "turn ", "turn turn ", "turn turn turn "}) {
+            T.due(words + "round a gap", outline(words + "(box 0 0 8 8-box 1 0 6 7)").pieces(true, 0), 1);
+            T.due(words + "two bars", outline(words + "(box 0 0 8 8-box 1 0 6 8)").pieces(true, 0), 2);
+        }
         QuarterBoards x = Harness.house("outline a=quarter 0 0 0+quarter 0 0 2+quarter 1 0 1+quarter 1 0 3;"
             + "outline b=a+shift 2 0 a;outline c=b+shift 4 0 b;outline d=c+shift 0 1 flip c;"
             + "outline e=d+shift 0 2 d;outline f=e+shift 0 4 e;");

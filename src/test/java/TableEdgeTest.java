@@ -71,6 +71,12 @@ public final class TableEdgeTest {
                 T.due("turned, by " + a + ", " + b, x.lay(0, 5, a, b), a >= 0 && a <= 6 && b >= 0 && b <= 5 ? 1 : -1);
             }
         }
+        for (int d = 0; d < 4; d++) {
+            QuarterBoards x = Harness.house("board a=quarter 3 3 " + d + ";");
+            T.due("QUARTER " + d + " beyond the right rim", x.lay(0, 0, 8, 7), -1);
+            T.due("QUARTER " + d + " beyond the lower rim", x.lay(0, 0, 7, 8), -1);
+            T.due("QUARTER " + d + " in the last CELL", x.lay(0, 0, 7, 7), 1);
+        }
         QuarterBoards y = Harness.house("board a=box 0 0 8 8;");
         T.due("the whole GRID", y.lay(0, 7, 0, 0), 1);
     }

@@ -24,8 +24,10 @@ public final class TextEdgeTest {
         joins();
         orderOfWords();
         namesAhead();
+        namesApart();
         firstByItsPlace();
         endOfText();
+        textsOneBehindTheOther();
         leastOfOnePlace();
         syntax();
         roomForTokens();
@@ -273,6 +275,27 @@ public final class TextEdgeTest {
         T.due("told anew", Harness.faultOf(x, "outline a=cell 0 0;"), 0);
     }
 
+    // Terms II: "NAMES (letters a .. z, 8 at most"
+    private static void namesApart() {
+        // they differ in the first letter of eight, in the last, in their length, in the order of letters
+        String[][] near = {{"abcdefgh", "bbcdefgh", "abcdefgi", "abcdefg", "bcdefgh", "badcfehg", "zbcdefgh"},
+            {"a", "aa", "aaa", "q", "qa", "aq", "aaaaaaaa"}, {"z", "zz", "y", "p", "ap", "pa", "zzzzzzzz"},
+            {"b", "ab", "ba", "r", "c", "ac", "bc"}, {"oard", "boar", "boards", "bord", "aboard", "cells", "boxx"},
+            {"aa", "ba", "ca", "da", "ea", "fa", "ga"}, {"az", "cz", "ez", "gz", "iz", "kz", "mz"},
+            {"nm", "pm", "rm", "tm", "vm", "xm", "zm"}, {"ka", "kb", "kd", "kh", "kp", "kx", "kz"}};
+        for (String[] names : near) {
+            StringBuilder text = new StringBuilder();
+            for (int i = 0; i < 7; i++) {
+                text.append("board ").append(names[i]).append("=box 0 0 ").append(i + 1).append(" 1;");
+            }
+            for (int i = 0; i < 7; i++) {
+                QuarterBoards x = Harness.house(text + "outline other=" + names[i] + ";");
+                T.due("area of " + names[i], x.area(true, 0), 4 * (i + 1));
+                T.fault(text + "outline " + names[i] + "=cell 0 0;", 3, text.length() + 8);
+            }
+        }
+    }
+
     // Terms II: "FAULTS, the first by its place (a byte; the text's end: its length), of one place the least:"
     private static void firstByItsPlace() {
         T.fault("? board a=(((((((cell 0 0)))))));", 1, 0);
@@ -298,6 +321,24 @@ public final class TextEdgeTest {
         }
         T.fault("board a=cell 0 0  ", 1, 18);
         T.fault("board a=cell 0 0" + " ".repeat(1984), 1, 2000);
+    }
+
+    // Terms II: "FAULTS, the first by its place"
+    private static void textsOneBehindTheOther() {
+        // what one text has used up is there again for the next one, also behind a FAULT
+        String[] texts = {Harness.eightAndSix(), ALL_BUT_ONE + ";", "board a=((((((cell 0 0))))));", "board a=((((((",
+            "board a=cell 0 0+(shift 1 0 turn cell 7 0);", "board", "board a=shift -", "board a=box 1 1 7",
+            "outline a=cell 0 0-cell 0 0;"};
+        int[] faults = {0, 0, 0, 10014, 60018, 10005, 10015, 10017, 70008};
+        for (int first = 0; first < texts.length; first++) {
+            QuarterBoards x = new QuarterBoards();
+            for (int i = 0; i < 4; i++) {
+                T.due("read of " + texts[first], Harness.faultOf(x, texts[first]), faults[first]);
+            }
+            for (int next = 0; next < texts.length; next++) {
+                T.due("read of " + texts[next], Harness.faultOf(x, texts[next]), faults[next]);
+            }
+        }
     }
 
     private static String lastWord(String text) {
@@ -518,6 +559,13 @@ public final class TextEdgeTest {
         T.fault("board a=shift 1 0 (cell 0 0+quarter 7 3 3);", 6, 8);
         T.fault("board a=shift 0 0 box 0 0 8 8;", 0, 0);
         T.fault("board a=shift 1 0 box 0 0 8 8;", 6, 8);
+        // whichever QUARTER of a CELL it is
+        for (int d = 0; d < 4; d++) {
+            T.fault("board a=shift 1 0 quarter 7 3 " + d + ";", 6, 8);
+            T.fault("board a=shift -1 0 quarter 0 3 " + d + ";", 6, 8);
+            T.fault("board a=shift 0 1 quarter 3 7 " + d + ";", 6, 8);
+            T.fault("board a=shift 0 -1 quarter 3 0 " + d + ";", 6, 8);
+        }
         // a row does not go on in the next one
         QuarterBoards x = Harness.house("board a=shift 7 0 quarter 0 3 3;");
         T.due("at the rim", x.has(false, 0, 4 * (8 * 3 + 7) + 3), 1);
@@ -594,6 +642,16 @@ public final class TextEdgeTest {
         T.due("its PARTS", x.part(0), -1);
         T.due("which SETS FILL is asked anew", x.sets(1), 0);
         T.due("the first CLAIM", x.claim(0, 0, 1), 0);
+        // all SETS of one board filled outline 0, and all outlines were a CELL: nothing of them is left
+        QuarterBoards y = Harness.house(Harness.eightAndSix());
+        T.due("sets", y.sets(0), 8);
+        T.due("read()", Harness.read(y, "board a=cell 0 0;board b=quarter 0 0 0;outline o=quarter 3 3 3;"), 0);
+        T.due("sets", y.sets(0), 1);
+        T.due("set", y.set(0, 0), 2);
+        T.due("needed", y.needed(0), 2);
+        T.due("no such outline", y.sets(1), -1);
+        y.lay(0, 0, 0, 0);
+        T.due("no such outline is shown", y.shows(), -2);
     }
 
     // Terms II: "its boards and outlines, each numbered from 0 on,"
