@@ -114,10 +114,7 @@ public final class TapeEdgeTest {
     private static void refusedFeed() {
         for (int gone = 0; gone <= 20; gone++) {
             QuarterBoards x = new QuarterBoards();
-            Harness.feed(x, RIGHT);
-            while (x.count(4) < 1980) {
-                Harness.feed(x, x.count(4) < 1940 ? " ".repeat(40) : " ".repeat(1980 - x.count(4)));
-            }
+            Harness.feed(x, RIGHT + " ".repeat(1980 - RIGHT.length()));
             feedBlanks(x);
             x.back(gone);
             T.due("feed at " + (2000 - gone), feedWith(x, 0, '?'), gone == 20 ? 2000 : -1);
