@@ -21,27 +21,24 @@ public final class QuarterBoards {
     private int tapeLength = 0;
     private int faultPlace = NONE;
 
-    private final Form[] boards = new Form[MOST_BOARDS];
+    private final Syntax syntax = new Syntax();
+    private final Meaning meaning = new Meaning();
+    private final Builder builder = new Builder();
+    private final Tokens tokens = builder.tokens;
+
+    private final Filler filler = new Filler();
+    private final Form[] boards = filler.boards;
     private final Form[] outlines = new Form[MOST_OUTLINES];
     private int boardCount = 0;
     private int outlineCount = 0;
 
-    private final Tokens tokens = new Tokens();
-    private final Syntax syntax = new Syntax();
-    private final Meaning meaning = new Meaning();
-    private final Builder builder = new Builder(tokens);
-
     private final Measure measure = new Measure();
-    private final Filler filler = new Filler(boards);
     private final Cutter cutter = new Cutter();
     private final Table table = new Table();
     private final Book book = new Book();
     private final Shape covered = new Shape();
 
     public QuarterBoards() {
-        for (int k = 0; k < MOST_BOARDS; k++) {
-            boards[k] = new Form();
-        }
         for (int k = 0; k < MOST_OUTLINES; k++) {
             outlines[k] = new Form();
         }
@@ -1106,6 +1103,8 @@ public final class QuarterBoards {
         private static final int MOST_TOLD = MOST_BOARDS + MOST_OUTLINES;
         private static final int LEVELS = 7;
 
+        // made here, so that no constructor hands out a part of the object that it makes
+        final Tokens tokens = new Tokens();
         final Shape[] made = new Shape[MOST_TOLD];
         final boolean[] asOutline = new boolean[MOST_TOLD];
         int many = 0;
@@ -1115,11 +1114,9 @@ public final class QuarterBoards {
         private final Shape spare = new Shape();
         private final int[] words = new int[Tokens.MOST];
         private int wordsOpen = 0;
-        private final Tokens tokens;
         private int at = 0;
 
-        Builder(Tokens text) {
-            tokens = text;
+        Builder() {
             for (int i = 0; i < MOST_TOLD; i++) {
                 made[i] = new Shape();
             }
@@ -1291,8 +1288,9 @@ public final class QuarterBoards {
         private static final int ALL_SETS = 1 << MOST_BOARDS;
         private static final int SET_ROWS = ALL_SETS >> 5;
 
+        // the boards of the house, made here for the same reason as the Builder's TOKENS
+        final Form[] boards = new Form[MOST_BOARDS];
         int countedSteps = 0;
-        private final Form[] boards;
         private final Shape left = new Shape();
         private boolean onlyFirst = false;
         private boolean full = false;
@@ -1305,8 +1303,10 @@ public final class QuarterBoards {
         // one bit for each SET: a list of all of them would be thirty times as long
         private final int[][] fillingSets = new int[MOST_OUTLINES][SET_ROWS];
 
-        Filler(Form[] ofHouse) {
-            boards = ofHouse;
+        Filler() {
+            for (int board = 0; board < MOST_BOARDS; board++) {
+                boards[board] = new Form();
+            }
         }
 
         void forget() {
